@@ -10,7 +10,10 @@ public final class FishingKites {
     private static final int KEPT_DAYS = 2;
     private static final int SEA_RIGHT = 9, SEA_NEAR = 1, SEA_FAR = 6;
     private static final int FIRST_STOCK = 30;
+    /** What is added to a number so that it is told as one from 0 on. */
     private static final int DRIFT_SHIFT = 3, MOVE_SHIFT = 1, PLACE_SHIFT = 100;
+    /** A string's length times the drift, by this, is how far a kite is from its post. */
+    private static final int DRIFT_PART = 3;
 
     private static final int MOST_BYTES = 200, MOST_LINES = 10, MOST_NUMBERS = 6, MOST_DIGITS = 2;
     private static final int MOST_WRITTEN = 8;
@@ -117,8 +120,8 @@ public final class FishingKites {
             return UNKNOWN;
         }
         switch (what) {
-            case 0: return sea.strengthAt(height, hour);
-            case 1: return sea.driftAt(height, hour) + DRIFT_SHIFT;
+            case 0: return Sea.windAt(sea.strength, height, hour);
+            case 1: return Sea.windAt(sea.drift, height, hour) + DRIFT_SHIFT;
             default: return OUTSIDE;
         }
     }
@@ -163,7 +166,7 @@ public final class FishingKites {
             return UNKNOWN;
         }
         switch (what) {
-            case 0: return day.up >> kite & 1;
+            case 0: return isIn(day.up, kite) ? 1 : 0;
             case 1: return day.asked[kite];
             case 2: return day.catches[kite];
             case 3: return day.upHours[kite];
@@ -229,7 +232,7 @@ public final class FishingKites {
         if (k < 0 || k >= KEPT_DAYS) {
             return UNKNOWN;
         }
-        if ((keptBits >> k & 1) == 0) {
+        if (!isIn(keptBits, k)) {
             return NOT;
         }
         day.become(kept[k]);
@@ -298,7 +301,7 @@ public final class FishingKites {
         int x = sea.kiteX(kite, height, hour);
         odds.begin(x - LEAST_X);
         for (int t = hour; t < HOURS; t++) {
-            odds.drift(sea.driftAt(height, t), p);
+            odds.drift(Sea.windAt(sea.drift, height, t), p);
         }
         return lowestTerm(odds.sumFrom(m - LEAST_X), tenToThe(HOURS - hour), part);
     }
@@ -353,6 +356,10 @@ public final class FishingKites {
         return hour >= 0 && hour < HOURS;
     }
 
+    private static boolean isIn(int bits, int i) {
+        return (bits >> i & 1) == 1;
+    }
+
     private static long tenToThe(int n) {
         long power = 1;
         for (int i = 0; i < n; i++) {
@@ -399,7 +406,7 @@ public final class FishingKites {
             for (int i = 0; i < MOST_LINES; i++) {
                 skipBlanks();
                 int word = readWord();
-                if (word == NONE || !readNumbers(word)) {
+                if (!readNumbers(word)) {
                     return at;
                 }
                 lines++;
@@ -457,8 +464,11 @@ public final class FishingKites {
             return true;
         }
 
-        /** Whether all numbers of a word come; if not, the reader stands at what comes instead. */
+        /** Whether it is a word and all its numbers come; if not, the reader stands at what comes instead. */
         boolean readNumbers(int word) {
+            if (word < 0 || word >= WORDS) {
+                return false;
+            }
             int from = NUMBERS_FROM[word];
             int size = NUMBERS_FROM[word + 1] - from;
             for (int i = 0; i < size && i < MOST_NUMBERS; i++) {
@@ -574,11 +584,14 @@ public final class FishingKites {
         }
 
         void tellWind(int[] n) {
+            if (!isHeight(n[0])) {
+                return;
+            }
+            int row = (n[0] - 1) * HOURS;
             for (int hour = 0; hour < HOURS; hour++) {
-                int i = slot(n[0], hour);
-                if (hour >= n[1] && hour <= n[2] && i != NONE) {
-                    strength[i] = n[3];
-                    drift[i] = n[4] - DRIFT_SHIFT;
+                if (hour >= n[1] && hour <= n[2]) {
+                    strength[row + hour] = n[3];
+                    drift[row + hour] = n[4] - DRIFT_SHIFT;
                 }
             }
         }
@@ -630,20 +643,10 @@ public final class FishingKites {
             }
         }
 
-        /** Where the wind at a height in an hour stands in its rows, or NONE. */
-        static int slot(int height, int hour) {
-            boolean stands = height >= 1 && height <= HEIGHTS && hour >= 0 && hour < HOURS;
-            return stands ? (height - 1) * HOURS + hour : NONE;
-        }
-
-        int strengthAt(int height, int hour) {
-            int i = slot(height, hour);
-            return i == NONE ? 0 : strength[i];
-        }
-
-        int driftAt(int height, int hour) {
-            int i = slot(height, hour);
-            return i == NONE ? 0 : drift[i];
+        /** Strength or drift at a height in an hour. */
+        static int windAt(int[] wind, int height, int hour) {
+            int i = (height - 1) * HOURS + hour;
+            return i >= 0 && i < wind.length ? wind[i] : 0;
         }
 
         boolean isToldKite(int kite) {
@@ -655,7 +658,7 @@ public final class FishingKites {
         }
 
         boolean isFoggy(int hour) {
-            return (fog >> hour & 1) == 1;
+            return isIn(fog, hour);
         }
 
         int kiteBits() {
@@ -683,7 +686,7 @@ public final class FishingKites {
         }
 
         int kiteX(int kite, int height, int hour) {
-            return isToldKite(kite) ? kites[kite].post + driftAt(height, hour) * kites[kite].string / 3 : NONE;
+            return isToldKite(kite) ? kites[kite].post + windAt(drift, height, hour) * kites[kite].string / DRIFT_PART : NONE;
         }
 
         int kiteY(int kite, int height) {
@@ -697,7 +700,7 @@ public final class FishingKites {
         }
 
         boolean hasLift(int kite, int height, int hour) {
-            return isToldKite(kite) && kites[kite].size * strengthAt(height, hour) >= kites[kite].net;
+            return isToldKite(kite) && kites[kite].size * windAt(strength, height, hour) >= kites[kite].net;
         }
 
         boolean wouldCross(int one, int other, int height, int hour) {
@@ -754,18 +757,15 @@ public final class FishingKites {
     private static final class Chart {
         /** By kite and height: the hours in which nothing hinders it, by bits. */
         final int[] freeHours = new int[KITES * CHOICES];
-        /** By two kites and height: the hours in which they would cross, by bits. */
-        final int[] crossingHours = new int[KITES * KITES * CHOICES];
-        /** By kite, height and hour: the shoals that come to its cell, by bits. */
+        /** By kite, height and hour: the shoals at its cell, by bits. */
         final int[] shoalsMet = new int[KITES * CHOICES * HOURS];
+        /** By kite, height and hour: the kites of greater number that it would cross there, by bits. */
+        final int[] kitesCrossed = new int[KITES * CHOICES * HOURS];
 
         void draw(Sea sea) {
             for (int k = 0; k < KITES; k++) {
                 for (int height = 1; height < CHOICES; height++) {
                     drawKite(sea, k, height);
-                    for (int other = k + 1; other < KITES; other++) {
-                        crossingHours[(k * KITES + other) * CHOICES + height] = crossings(sea, k, other, height);
-                    }
                 }
             }
         }
@@ -777,6 +777,7 @@ public final class FishingKites {
                 boolean isFree = sea.isInSea(kite, height, hour) && sea.hasLift(kite, height, hour);
                 free |= isFree ? 1 << hour : 0;
                 shoalsMet[row * HOURS + hour] = isFree ? shoalsAt(sea, kite, height, hour) : 0;
+                kitesCrossed[row * HOURS + hour] = isFree ? kitesAcross(sea, kite, height, hour) : 0;
             }
             freeHours[row] = free;
         }
@@ -784,35 +785,35 @@ public final class FishingKites {
         static int shoalsAt(Sea sea, int kite, int height, int hour) {
             int x = sea.kiteX(kite, height, hour);
             int y = sea.kiteY(kite, height);
-            int met = 0;
+            int bits = 0;
             for (int s = 0; s < SHOALS; s++) {
                 boolean isHere = sea.isToldShoal(s) && sea.shoalX(s, hour) == x && sea.shoalY(s, hour) == y;
-                met |= isHere ? 1 << s : 0;
+                bits |= isHere ? 1 << s : 0;
             }
-            return met;
+            return bits;
         }
 
-        static int crossings(Sea sea, int one, int other, int height) {
-            int hours = 0;
-            for (int hour = 0; hour < HOURS; hour++) {
-                hours |= sea.wouldCross(one, other, height, hour) ? 1 << hour : 0;
+        static int kitesAcross(Sea sea, int kite, int height, int hour) {
+            int bits = 0;
+            for (int other = kite + 1; other < KITES; other++) {
+                bits |= sea.wouldCross(kite, other, height, hour) ? 1 << other : 0;
             }
-            return hours;
+            return bits;
         }
 
         boolean isFree(int kite, int height, int hour) {
             int i = kite * CHOICES + height;
-            return i >= 0 && i < KITES * CHOICES && (freeHours[i] >> hour & 1) == 1;
-        }
-
-        boolean doCross(int lower, int higher, int height, int hour) {
-            int i = (lower * KITES + higher) * CHOICES + height;
-            return i >= 0 && i < KITES * KITES * CHOICES && (crossingHours[i] >> hour & 1) == 1;
+            return i >= 0 && i < KITES * CHOICES && isIn(freeHours[i], hour);
         }
 
         int met(int kite, int height, int hour) {
             int i = (kite * CHOICES + height) * HOURS + hour;
             return i >= 0 && i < KITES * CHOICES * HOURS ? shoalsMet[i] : 0;
+        }
+
+        int crossed(int kite, int height, int hour) {
+            int i = (kite * CHOICES + height) * HOURS + hour;
+            return i >= 0 && i < KITES * CHOICES * HOURS ? kitesCrossed[i] : 0;
         }
     }
 
@@ -873,7 +874,7 @@ public final class FishingKites {
             for (int i = 0; i < n && hours < HOURS; i++) {
                 up = untangled(risen(sea, chart), sea, chart, law);
                 for (int k = 0; k < KITES; k++) {
-                    if ((up >> k & 1) == 1) {
+                    if (isIn(up, k)) {
                         upHours[k]++;
                         fish(k, sea, chart);
                     }
@@ -888,7 +889,7 @@ public final class FishingKites {
             int rising = 0;
             int string = 0;
             for (int k = 0; k < KITES; k++) {
-                if (!chart.isFree(k, asked[k], hours) || foggy && (up >> k & 1) == 0) {
+                if (!chart.isFree(k, asked[k], hours) || foggy && !isIn(up, k)) {
                     continue;
                 }
                 int longer = string + sea.kites[k].string;
@@ -904,9 +905,10 @@ public final class FishingKites {
         int untangled(int rising, Sea sea, Chart chart, int law) {
             int still = rising;
             for (int one = 0; one < KITES; one++) {
-                for (int other = one + 1; other < KITES; other++) {
-                    boolean bothUp = (still >> one & still >> other & 1) == 1;
-                    if (bothUp && asked[one] == asked[other] && chart.doCross(one, other, asked[one], hours)) {
+                int across = isIn(still, one) ? chart.crossed(one, asked[one], hours) : 0;
+                for (int other = one + 1; other < KITES && across >> other != 0; other++) {
+                    boolean bothUp = isIn(still, one) && isIn(still, other);
+                    if (bothUp && isIn(across, other) && asked[one] == asked[other]) {
                         int loser = sea.givingWay(one, other, law);
                         still &= ~(1 << loser);
                         gaveWay[loser]++;
@@ -918,10 +920,13 @@ public final class FishingKites {
 
         void fish(int kite, Sea sea, Chart chart) {
             int met = chart.met(kite, asked[kite], hours);
+            if (met == 0) {
+                return;
+            }
             int room = FISH_BY_NET * sea.kites[kite].net;
             int took = 0;
-            for (int s = 0; s < SHOALS && met >> s != 0; s++) {
-                int many = (met >> s & 1) == 1 ? Math.min(left[s], room - took) : 0;
+            for (int s = 0; s < SHOALS; s++) {
+                int many = isIn(met, s) ? Math.min(left[s], room - took) : 0;
                 if (many > 0) {
                     left[s] -= many;
                     took += many;
@@ -932,6 +937,14 @@ public final class FishingKites {
             catches[kite] += rest;
             caught += rest;
             gullsHave += took - rest;
+        }
+
+        int fishIn(int shoalBits) {
+            int fish = 0;
+            for (int s = 0; s < SHOALS; s++) {
+                fish += isIn(shoalBits, s) ? left[s] : 0;
+            }
+            return fish;
         }
 
         void note(int kite, int shoal, int many) {
@@ -1031,29 +1044,28 @@ public final class FishingKites {
             }
         }
 
-        /** What a kite alone would catch, had each shoal in each hour all the fish it has at the start. */
+        /**
+         * What a kite alone would catch, had each shoal in each hour all the fish it has at the start,
+         * but no more than all the shoals that it meets have.
+         */
         static int boundOf(int kite, int height, Day start, int hours, Sea sea, Chart chart) {
-            boolean isUp = (start.up >> kite & 1) == 1;
-            int hoursUp = 0;
+            boolean isUp = isIn(start.up, kite);
+            boolean wasUp = false;
             int sum = 0;
+            int metAtAll = 0;
+            int net = FISH_BY_NET * sea.kites[kite].net;
             for (int i = 0; i < hours && start.hours + i < HOURS; i++) {
                 int hour = start.hours + i;
                 isUp = chart.isFree(kite, height, hour) && (isUp || !sea.isFoggy(hour))
                     && sea.kites[kite].string <= sea.stock;
                 if (isUp) {
-                    hoursUp++;
-                    sum += mostInHour(kite, chart.met(kite, height, hour), start, sea);
+                    int met = chart.met(kite, height, hour);
+                    wasUp = true;
+                    metAtAll |= met;
+                    sum += sea.afterGulls(Math.min(start.fishIn(met), net));
                 }
             }
-            return hoursUp == 0 ? NONE : sum;
-        }
-
-        static int mostInHour(int kite, int met, Day start, Sea sea) {
-            int fish = 0;
-            for (int s = 0; s < SHOALS; s++) {
-                fish += (met >> s & 1) == 1 ? start.left[s] : 0;
-            }
-            return sea.afterGulls(Math.min(fish, FISH_BY_NET * sea.kites[kite].net));
+            return wasUp ? Math.min(sum, start.fishIn(metAtAll)) : NONE;
         }
     }
 
