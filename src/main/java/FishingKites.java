@@ -62,7 +62,7 @@ public final class FishingKites {
     private final Sea sea = new Sea();
     private final Chart chart = new Chart();
     private final Day day = new Day();
-    /** The day at its begin: what whole days are foretold from. */
+    /** The day at its begin: no hour ever goes in it, so only its shoals are set anew. */
     private final Day morning = new Day();
     private final Day trial = new Day();
     private final Day[] kept = new Day[KEPT_DAYS];
@@ -107,7 +107,7 @@ public final class FishingKites {
         text.readInto(sea);
         text.length = 0;
         chart.draw(sea);
-        morning.begin(sea);
+        morning.stockShoals(sea);
         day.become(morning);
         keptBits = 0;
         hourSearch.forget();
@@ -833,16 +833,8 @@ public final class FishingKites {
         /** Each taking in one number: kite, shoal, hour in four bits each, how many above them. */
         final int[] notes = new int[MOST_TAKINGS];
 
-        void begin(Sea sea) {
-            hours = 0;
-            up = 0;
-            caught = 0;
-            gullsHave = 0;
-            takings = 0;
-            Arrays.fill(asked, 0);
-            Arrays.fill(catches, 0);
-            Arrays.fill(upHours, 0);
-            Arrays.fill(gaveWay, 0);
+        /** Fills a day in which no hour has gone. */
+        void stockShoals(Sea sea) {
             for (int s = 0; s < SHOALS; s++) {
                 left[s] = sea.isToldShoal(s) ? sea.shoals[s].many : 0;
             }

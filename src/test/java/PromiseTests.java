@@ -136,6 +136,14 @@ final class PromiseTests {
         fault("gulls 9", NONE);
         fault("calm", NONE);
         fault("lost 5", NONE);
+        fault("wind 1 0 0 0 0", NONE);
+        fault("kite 0 0 1 1 0 0", NONE);
+        fault("shoal 0 0 1 0 0 0", NONE);
+        fault("law 0", NONE);
+        fault("stock 0", NONE);
+        fault("fog 0 0", NONE);
+        fault("gulls 0", NONE);
+        fault("lost 0", NONE);
         fault("", 0);
         fault("   ", 3);
         fault("win", 0);
@@ -455,6 +463,11 @@ final class PromiseTests {
         due("11 farthest at 2", x.where(3, 2, 5), 62);
         due("11 9 at 3", x.where(4, 3, 5), 61);
         due("11 right of the sea", x.where(1, 1, 2), NONE);
+        FishingKites z = Checks.told("wind 2 0 0 0 4;wind 2 1 1 0 2", "kite 0 9 1 3 0 0;kite 1 8 1 3 0 0;kite 2 0 1 3 0 0;kite 3 1 1 3 0 0");
+        due("11 x 10", z.where(0, 2, 0), NONE);
+        due("11 x 9", z.where(1, 2, 0), 19);
+        due("11 x -1", z.where(2, 2, 1), NONE);
+        due("11 x 0", z.where(3, 2, 1), 10);
         due("11 left of the sea", x.where(4, 1, 1), NONE);
         // 9 - 14/3 = 9 - 4
         due("11 in from the right", x.where(1, 1, 0), 65);
@@ -657,6 +670,13 @@ final class PromiseTests {
             due("9 gulls have", y.count(9), lost);
             due("9 catch", y.count(8), 27 - lost);
         }
+        // one fish is a taking, too; it is too few for two gulls
+        FishingKites one = Checks.told("wind 1 0 11 9 3;gulls 2;kite 0 3 5 4 9 0;shoal 2 3 3 1 1 1");
+        one.ask(0, 1);
+        one.go(3);
+        due("9 one fish", one.count(7), 1);
+        due("9 one fish", one.count(8), 1);
+        due("9 one fish", one.taking(0, 3), 1);
         // a net of 0 is up and takes nothing
         FishingKites z = Checks.told("kite 0 3 5 4 0 0;shoal 0 3 3 1 1 99");
         z.ask(0, 1);
@@ -742,6 +762,18 @@ final class PromiseTests {
         due("16 begin", x.count(7), 0);
         due("15 over it", x.keep(0), 0);
         due("16 over it", x.back(0), 0);
+        x.ask(1, 1);
+        x.go(3);
+        x.keep(1);
+        x.back(0);
+        x.ask(0, 1);
+        x.go(2);
+        due("16 takings of another way", x.taking(0, 0), 0);
+        due("16 that way", x.back(1), 3);
+        due("16 takings of that way", x.taking(0, 0), 1);
+        due("16 takings of that way", x.taking(2, 2), 2);
+        due("16 begin", x.back(0), 0);
+        x.keep(1);
         for (int bad : new int[] {LOW, -1, 2, HIGH}) {
             due("15 k", x.keep(bad), UNKNOWN);
             due("16 k", x.back(bad), UNKNOWN);
