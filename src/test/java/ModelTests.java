@@ -4,7 +4,8 @@ import java.util.Random;
 /** Runs of calls drawn from fixed seeds, each answer beside that of the plain model. */
 final class ModelTests {
     private static final Checks CHECKS = new Checks();
-    private static final int RUNS = 300, CALLS = 450;
+    /** The document promises nothing behind an object's 512th call; a last text and counts come behind these calls. */
+    private static final int RUNS = 300, CALLS = 380, MOST_CALLS = 512;
 
     private final Random random;
     private final FishingKites kites = new FishingKites();
@@ -12,6 +13,7 @@ final class ModelTests {
     private final int run;
     /** The model tries all heights by brute force, so whole days are asked for seldom. */
     private int daysLeft = 6;
+    private int made = 0;
 
     private ModelTests(int run) {
         this.run = run;
@@ -25,7 +27,9 @@ final class ModelTests {
         CHECKS.end();
     }
 
+    /** Each answer is that of one call. */
     private void due(String call, long got, long want) {
+        made++;
         CHECKS.due("run " + run + ": " + call, got, want);
     }
 
@@ -45,19 +49,19 @@ final class ModelTests {
         for (int i = 0; i < 3; i++) {
             text(false);
         }
-        int made = 0;
         while (made < CALLS) {
-            made += oneCall();
+            oneCall();
         }
         for (int what = 0; what <= 10; what++) {
             due("count", kites.count(what), model.count(what));
         }
+        CHECKS.holds("run " + run + ": " + made + " calls", made <= MOST_CALLS);
     }
 
-    private int oneCall() {
+    private void oneCall() {
         int kind = random.nextInt(100);
         if (kind < 3) {
-            return text(random.nextInt(3) == 0);
+            text(random.nextInt(3) == 0);
         } else if (kind < 18) {
             int k = near(0, 5);
             int h = near(0, 3);
@@ -91,7 +95,6 @@ final class ModelTests {
         } else {
             foretold(kind);
         }
-        return 1;
     }
 
     private void places(int kind) {
@@ -140,8 +143,8 @@ final class ModelTests {
         }
     }
 
-    /** Writes a text, spoils it perhaps, and does its lines; answers how many calls that took. */
-    private int text(boolean spoiled) {
+    /** Writes a text, spoils it perhaps, and does its lines. */
+    private void text(boolean spoiled) {
         StringBuilder text = new StringBuilder();
         int lines = 1 + random.nextInt(spoiled ? 11 : 10);
         for (int i = 0; i < lines && text.length() < 175; i++) {
@@ -151,8 +154,7 @@ final class ModelTests {
             spoil(text);
         }
         byte[] bytes = text.toString().getBytes(StandardCharsets.ISO_8859_1);
-        int calls = 4;
-        for (int from = 0; from < bytes.length; calls++) {
+        for (int from = 0; from < bytes.length;) {
             int n = near(1, 8);
             long row = random.nextLong();
             if (n >= 1 && n <= 8) {
@@ -170,7 +172,6 @@ final class ModelTests {
         if (done < 0 && random.nextInt(8) != 0) {
             due("erase", kites.erase(), model.erase());
         }
-        return calls;
     }
 
     private void spoil(StringBuilder text) {
