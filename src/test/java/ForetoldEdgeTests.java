@@ -139,6 +139,11 @@ final class ForetoldEdgeTests {
         y.ask(0, 3);
         y.go(1);
         best(y, 6, 1, 0);
+        DOC.says(17, "by which most is caught: in FOG by those that were UP, at another HEIGHT, too");
+        FishingKites other = Checks.told("wind 1 0 0 9 3;wind 2 1 1 9 3;fog 1 1;kite 0 3 5 5 2 0;shoal 0 3 3 1 1 9");
+        other.ask(0, 1);
+        other.go(1);
+        best(other, 6, 2);
         DOC.says(17, "by which most is caught: by the LAW as it is told");
         // both can be at the shoal at height 1 alone; 0 is small and has the greater net
         String cross = "kite 0 3 1 5 9 0;kite 1 3 2 5 8 1;shoal 0 3 4 1 1 99";
